@@ -447,7 +447,12 @@ public final class PromiseTest {
             Checks.equal("11 twenty", 20 * i, heap.type(-1, -1, -1, -1, -1));
         }
         Checks.equal("11 the last but one", 199, heap.type(-1, -1, -1, -1, 0x00FFFFFF));
-        Checks.illegalState("11 over 200", () -> heap.type(0, 0, -1, 0, 0));
+        Checks.illegalState("11 over 200 by a", () -> heap.type(-1, 0, 0, 0, 0));
+        Checks.illegalState("11 over 200 by b", () -> heap.type(0, -1, 0, 0, 0));
+        Checks.illegalState("11 over 200 by c", () -> heap.type(0, 0, -1, 0, 0));
+        Checks.illegalState("11 over 200 by d", () -> heap.type(0, 0, 0, -1, 0));
+        Checks.illegalState("11 over 200 by e", () -> heap.type(0, 0, 0, 0, -1));
+        Checks.illegalState("11 over 200 by a and e", () -> heap.type(1, 0, 0, 0, 1));
         Checks.equal("11 which changes nothing", 199, heap.type(0, 0, 0, 0, 0));
         Checks.equal("11 exactly 200", 200, heap.type(0, 0, 0, 0, 1));
         Checks.equal("11 nothing more still goes", 200, heap.type(0, 0, 0, 0, 0));
