@@ -2,8 +2,16 @@
 final class Checks {
     private static int passed = 0;
     private static int failed = 0;
+    private static String sentence = "";
 
     private Checks() {
+    }
+
+    /** One sentence of the document and its test; a test that is thrown out of is a wrong one. */
+    static void test(String quoted, Runnable test) {
+        sentence = "[" + quoted + "] ";
+        equal("what the test throws", "nothing", thrownBy(test));
+        sentence = "";
     }
 
     static void equal(String what, long want, long got) {
@@ -19,7 +27,7 @@ final class Checks {
             passed++;
         } else {
             failed++;
-            System.out.println("WRONG " + what + ": due is " + want + ", answered " + got);
+            System.out.println("WRONG " + sentence + what + ": due is " + want + ", answered " + got);
         }
     }
 
