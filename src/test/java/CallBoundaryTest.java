@@ -1,6 +1,6 @@
 import java.util.function.BiConsumer;
 
-/** Registers, PAIRS, KIND, IllegalArgument and what is asked of the heap: a test for each sentence that names a boundary. */
+/** Registers, PAIRS, KIND, IllegalArgument, and what is asked: a test for each sentence that names a boundary. */
 public final class CallBoundaryTest {
     private static final int[] WRONG_WHATS = {-1, 4, 5, Integer.MIN_VALUE, Integer.MAX_VALUE};
 

@@ -66,7 +66,8 @@ final class Checks {
     static int typeText(CellHeap heap, String text) {
         int has = heap.type(0, 0, 0, 0, 0);
         for (int i = 0; i < text.length(); i += 20) {
-            has = heap.type(four(text, i), four(text, i + 4), four(text, i + 8), four(text, i + 12), four(text, i + 16));
+            has = heap.type(four(text, i), four(text, i + 4), four(text, i + 8), four(text, i + 12),
+                    four(text, i + 16));
         }
         return has;
     }

@@ -27,7 +27,9 @@ public final class NumberBoundaryTest {
         Checks.test("way 4 quotient, cut to 0", NumberBoundaryTest::quotients);
         Checks.test("way 5 remainder, of the sign of the first", NumberBoundaryTest::remainders);
         Checks.test("way 6 the greatest common divisor, not below 0", NumberBoundaryTest::divisors);
+        Checks.test("way 4, 5: words whose quotient is guessed too large", NumberBoundaryTest::guessedTooLarge);
         Checks.test("work: a REGISTER that is an operand too", NumberBoundaryTest::ontoOperands);
+        Checks.test("work: A REGISTER is a NUMBER made of two, whatever was made before", NumberBoundaryTest::madeAnew);
         Checks.test("work: 4, 5, 6 of whole numbers alone (else KIND)", NumberBoundaryTest::wholeAlone);
         Checks.test("work: KIND of NIL and of a PAIR", NumberBoundaryTest::kindOfWork);
         Checks.test("work: KIND goes before ZERO", NumberBoundaryTest::kindBeforeZero);
@@ -259,6 +261,37 @@ public final class NumberBoundaryTest {
         works("18446744073709551616", DIVISOR, "-12884901888", "4294967296");
         works("-" + MOST, DIVISOR, "0", MOST);
         works("-" + MOST, DIVISOR, MOST, MOST);
+    }
+
+    private static void guessedTooLarge() {
+        String[][] words = {{"7FFFFFFF800000000000000000000000", "800000000000000000000001"},
+            {"800000000000000000000003", "200000000000000000000001"},
+            {"FFFFFFFEFFFFFFFFFFFFFFFF00000000", "FFFFFFFFFFFFFFFF"},
+            {"80000000000000000000000000000000", "8000000000000001"},
+            {"00000003000000000000000080000000", "000000010000000000000000"},
+            {"3FFFFFFFC0000000000000000000000000000000", "4000000000000000000000010000"}};
+        for (String[] both : words) {
+            BigInteger a = new BigInteger(both[0], 16);
+            BigInteger b = new BigInteger(both[1], 16);
+            works(a.toString(), QUOTIENT, b.toString(), a.divide(b).toString());
+            works(a.toString(), REMAINDER, b.toString(), a.remainder(b).toString());
+        }
+    }
+
+    private static void madeAnew() {
+        String[] due = {"8", "4", "12", "3", "3", "0", "2"};
+        for (int way = PLUS; way <= DIVISOR; way++) {
+            for (int before = PLUS; before <= DIVISOR; before++) {
+                CellHeap heap = Scenes.withNumbers("6", "2", "-" + MOST, "4294967296", "-7/3");
+                heap.work(5, 2, before > OVER_WAY ? 3 : 4, before);
+                heap.compare(4, 2);
+                Checks.equal("way " + way + " behind " + before, 0, heap.work(5, 0, 1, way));
+                Checks.equal("is due", due[way], Checks.written(heap, 5));
+                heap.work(5, 1, 4, before % 4);
+                heap.load(5, 9);
+                Checks.equal("load behind it", "9", Checks.written(heap, 5));
+            }
+        }
     }
 
     private static void ontoOperands() {

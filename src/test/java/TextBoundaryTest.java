@@ -58,8 +58,7 @@ public final class TextBoundaryTest {
             CellHeap heap = new CellHeap();
             int[] fours = new int[5];
             fours[place / 4] = '7' << 24 - 8 * (place % 4);
-            int has = heap.type(fours[0], fours[1], fours[2], fours[3], fours[4]);
-            Checks.equal("byte " + place + " alone", 1, has);
+            Checks.equal("byte " + place + " alone", 1, typeFours(heap, fours));
             heap.read(0);
             Checks.equal("byte " + place + " is read", 7, heap.value(0, 3));
         }
@@ -68,6 +67,10 @@ public final class TextBoundaryTest {
         Checks.equal("all twenty", 20, heap.type(0x31323334, 0x35363738, 0x39303132, 0x33343536, 0x37383930));
         heap.read(0);
         Checks.equal("twenty in order", "12345678901234567890", Checks.written(heap, 0));
+    }
+
+    private static int typeFours(CellHeap heap, int[] fours) {
+        return heap.type(fours[0], fours[1], fours[2], fours[3], fours[4]);
     }
 
     private static void highestByteFirst() {
@@ -137,7 +140,7 @@ public final class TextBoundaryTest {
             CellHeap heap = withLine(LINE_MOST);
             int[] fours = new int[5];
             fours[place / 4] = 1 << 24 - 8 * (place % 4);
-            Checks.illegalState("200 and byte " + place, () -> heap.type(fours[0], fours[1], fours[2], fours[3], fours[4]));
+            Checks.illegalState("200 and byte " + place, () -> typeFours(heap, fours));
         }
         for (int more = 1; more <= 20; more++) {
             CellHeap heap = withLine(LINE_MOST - more + 1);
@@ -145,7 +148,7 @@ public final class TextBoundaryTest {
             for (int i = 0; i < more; i++) {
                 fours[i / 4] |= 0x80 << 24 - 8 * (i % 4);
             }
-            Checks.illegalState("one too many of " + more, () -> heap.type(fours[0], fours[1], fours[2], fours[3], fours[4]));
+            Checks.illegalState("one too many of " + more, () -> typeFours(heap, fours));
         }
     }
 
@@ -462,7 +465,7 @@ public final class TextBoundaryTest {
         Checks.equal("its last character", ')', other.output(3 * 132));
     }
 
-    /** A list whose text has so many characters, 321 at least: every part of it doubles what is there, then one by one. */
+    /** A list whose text has so many characters, 323 at least: doubled at first, an object has but 512 calls. */
     private static CellHeap withText(int length) {
         CellHeap heap = new CellHeap();
         heap.cons(0, 7, 7);
